@@ -13,7 +13,7 @@ public final class WordOnPost {
     private static final int YEARS = 10, YEAR = 12, MONTHS = 120, STORM_DAYS = 60, IMAGES = 2;
     private static final int JOINED = 6, DEAD = 7;
     private static final int LONGEST_TEXT = 120, MOST_LEFT = 20, MOST_FOUND = 9, MOST_PEOPLE = 999;
-    private static final int HARD = 0, TRUE = 1, EACH = 0, CARRIED = 1;
+    private static final int HARD = 0, TRUE = 1, EACH = 0, CARRIED = 1, MOST_HARD = 9;
     private static final int WORLD_ROOM = 32, CHANCE_ROOM = 5;
 
     /** What calls answer as BAD whose NONE and numbers leave no room for -2. */
@@ -505,6 +505,7 @@ public final class WordOnPost {
         if (now.places == 0) {
             return true;
         }
+        lives.refresh();
         worlds.refresh();
         return worlds.total.isZero();
     }
@@ -681,6 +682,13 @@ public final class WordOnPost {
         static final int GO = 4, JOIN = 5, DIE = 6, WORD = 7, CROSS = 8;
         private static final int MOST_FIGURES = 3;
 
+        /** The words' letters by their numbers, 8 bits each, the first the highest. */
+        private static final long GO_LETTERS = 0x676f;
+        private static final long JOIN_LETTERS = 0x6a6f696e;
+        private static final long DIE_LETTERS = 0x646965;
+        private static final long WORD_LETTERS = 0x776f7264;
+        private static final long CROSS_LETTERS = 0x63726f7373L;
+
         private final int[] starts = new int[LONGEST_TEXT + 1];
         private final int[] tokens = new int[LONGEST_TEXT + 1];
         private final int[] values = new int[LONGEST_TEXT + 1];
@@ -727,32 +735,29 @@ public final class WordOnPost {
         }
 
         private void readLetters(int[] text, int length, int start) {
+            long letters = text[start];
             while (ahead < length && isLetter(text[ahead])) {
+                letters = letters << 8 | text[ahead];
                 ahead++;
             }
-            if (spells(text, start, "go")) {
-                keep(start, GO, 0);
-            } else if (spells(text, start, "join")) {
-                keep(start, JOIN, 0);
-            } else if (spells(text, start, "die")) {
-                keep(start, DIE, 0);
-            } else if (spells(text, start, "word")) {
-                keep(start, WORD, 0);
-            } else {
-                keep(start, spells(text, start, "cross") ? CROSS : WRONG, 0);
-            }
+            keep(start, wordOf(letters), 0);
         }
 
-        private boolean spells(int[] text, int start, String name) {
-            if (ahead - start != name.length()) {
-                return false;
+        /** No letter is 0, so what falls off a long word's front does not make it look like a short one. */
+        private static int wordOf(long letters) {
+            if (letters == GO_LETTERS) {
+                return GO;
             }
-            for (int i = 0; i < name.length(); i++) {
-                if (text[start + i] != name.charAt(i)) {
-                    return false;
-                }
+            if (letters == JOIN_LETTERS) {
+                return JOIN;
             }
-            return true;
+            if (letters == DIE_LETTERS) {
+                return DIE;
+            }
+            if (letters == WORD_LETTERS) {
+                return WORD;
+            }
+            return letters == CROSS_LETTERS ? CROSS : WRONG;
         }
 
         private void readFigures(int[] text, int length, int start) {
@@ -875,7 +880,7 @@ public final class WordOnPost {
         private final int[] turns = new int[MONTHS];
         private int turnCount;
         private final int[] heads = new int[PLACES];
-        private final boolean[] hungry = new boolean[PLACES];
+        private final int[] hungry = new int[PLACES];
         private final int[][] feeds = new int[PLACES][YEARS];
         boolean fresh;
 
@@ -929,12 +934,13 @@ public final class WordOnPost {
 
         /** Takes the world's number for a story of each lot: whether all these have no fault. */
         boolean choose(int world) {
-            boolean faultless = true;
             for (int lot = 0; lot < now.lots; lot++) {
                 choice[lot] = (world >> (2 * lot)) & (STORIES - 1);
-                faultless &= tales[choice[lot]].fault == NONE;
+                if (tales[choice[lot]].fault != NONE) {
+                    return false;
+                }
             }
-            return faultless;
+            return true;
         }
 
         boolean doAllLive(int story) {
@@ -960,12 +966,12 @@ public final class WordOnPost {
             for (int turn = 0; turn < turnCount; turn++) {
                 int month = turns[turn];
                 if (month % YEAR == 0) {
-                    Arrays.fill(hungry, false);
+                    Arrays.fill(hungry, 0);
                 }
                 countHeads(month);
                 for (int place = 0; place < now.places; place++) {
-                    if (!hungry[place] && heads[place] > feeds[place][month / YEAR]) {
-                        hungry[place] = true;
+                    if (hungry[place] == 0 && heads[place] > feeds[place][month / YEAR]) {
+                        hungry[place] = 1;
                         count++;
                     }
                 }
@@ -1090,8 +1096,8 @@ public final class WordOnPost {
             return lived[lot * STORIES + story];
         }
 
+        /** The lives are fresh already. */
         void refresh() {
-            lives.refresh();
             if (fresh) {
                 return;
             }
@@ -1099,7 +1105,7 @@ public final class WordOnPost {
             forgetSums();
             shareOut();
             chances.refresh(now);
-            mostHunger = lives.mostHunger();
+            mostHunger = now.puts[HARD] < MOST_HARD ? lives.mostHunger() : 0;
             int worlds = 1 << (2 * now.lots);
             for (int world = 0; world < worlds; world++) {
                 if (lives.choose(world)) {
@@ -1161,9 +1167,6 @@ public final class WordOnPost {
             for (int lot = 0; lot < now.lots; lot++) {
                 weight.times(shares[lot][lives.choice[lot]]);
             }
-            int hunger = lives.hungerYears();
-            weight.timesPower(now.puts[HARD], hunger);
-            weight.timesPower(9, mostHunger - hunger);
             for (int sign = 0; sign < now.signs && !weight.isZero(); sign++) {
                 int[] row = now.signRows[sign];
                 int left = lives.left(row[State.SIGN_PLACE], row[State.SIGN_KIND]);
@@ -1171,6 +1174,11 @@ public final class WordOnPost {
                 Big product = spare;
                 spare = weight;
                 weight = product;
+            }
+            if (mostHunger > 0 && !weight.isZero()) {
+                int hunger = lives.hungerYears();
+                weight.timesPower(now.puts[HARD], hunger);
+                weight.timesPower(MOST_HARD, mostHunger - hunger);
             }
         }
 
@@ -1204,11 +1212,10 @@ public final class WordOnPost {
             boolean dead = false;
             boolean alive = false;
             for (int story = 0; story < STORIES; story++) {
-                if (!livedBy(lot, story).isZero()) {
-                    boolean dies = lives.tales[story].whereabouts[MONTHS - 1] == DEAD;
-                    dead |= dies;
-                    alive |= !dies;
-                }
+                boolean dies = lives.tales[story].whereabouts[MONTHS - 1] == DEAD;
+                boolean isLived = !livedBy(lot, story).isZero();
+                dead = dead || isLived && dies;
+                alive = alive || isLived && !dies;
             }
             return dead && alive ? 2 : dead ? 1 : 0;
         }
@@ -1246,16 +1253,16 @@ public final class WordOnPost {
     /** The first days on which a ship can be at places. */
     private static final class Ship {
         private final int[] firstDay = new int[PLACES];
-        private final boolean[] settled = new boolean[PLACES];
+        private final int[] settled = new int[PLACES];
 
         int firstDayAt(State now, int from, int to, int day) {
             Arrays.fill(firstDay, NONE);
-            Arrays.fill(settled, false);
+            Arrays.fill(settled, 0);
             firstDay[from] = day;
             for (int i = 0; i < now.places; i++) {
                 int here = soonest();
                 if (here != NONE) {
-                    settled[here] = true;
+                    settled[here] = 1;
                     sailOnFrom(now, here);
                 }
             }
@@ -1266,7 +1273,7 @@ public final class WordOnPost {
         private int soonest() {
             int best = NONE;
             for (int place = 0; place < PLACES; place++) {
-                if (!settled[place] && firstDay[place] != NONE) {
+                if (settled[place] == 0 && firstDay[place] != NONE) {
                     if (best == NONE || firstDay[place] < firstDay[best]) {
                         best = place;
                     }
@@ -1278,7 +1285,7 @@ public final class WordOnPost {
         private void sailOnFrom(State now, int here) {
             for (int place = 0; place < now.places; place++) {
                 int leg = now.ways[here][place];
-                if (leg > 0 && !settled[place]) {
+                if (leg > 0 && settled[place] == 0) {
                     int day = endOfLeg(now.storms, firstDay[here], leg);
                     if (firstDay[place] == NONE || day < firstDay[place]) {
                         firstDay[place] = day;
@@ -1306,9 +1313,9 @@ public final class WordOnPost {
 
         final Big above = new Big(WORLD_ROOM);
         final Big below = new Big(WORLD_ROOM);
-        private final Big one = new Big(WORLD_ROOM);
-        private final Big other = new Big(WORLD_ROOM);
         private final Big quotient = new Big(WORLD_ROOM);
+        private Big greater = new Big(WORLD_ROOM);
+        private Big lesser = new Big(WORLD_ROOM);
 
         Fraction() {
             below.become(1);
@@ -1316,26 +1323,23 @@ public final class WordOnPost {
 
         /** The whole is above 0. */
         void become(Big part, Big whole) {
-            Big divisor = greatestDivisor(part, whole);
-            Big rest = divisor == one ? other : one;
-            rest.copy(part);
-            rest.divide(divisor, above);
-            rest.copy(whole);
-            rest.divide(divisor, below);
-        }
-
-        private Big greatestDivisor(Big part, Big whole) {
-            Big greater = one;
-            Big lesser = other;
             greater.copy(whole);
             lesser.copy(part);
+            findDivisor();
+            lesser.copy(part);
+            lesser.divide(greater, above);
+            lesser.copy(whole);
+            lesser.divide(greater, below);
+        }
+
+        /** Leaves the greatest divisor of both in the greater one. */
+        private void findDivisor() {
             for (int step = 0; step < MOST_STEPS && !lesser.isZero(); step++) {
                 greater.divide(lesser, quotient);
                 Big rest = greater;
                 greater = lesser;
                 lesser = rest;
             }
-            return greater;
         }
     }
 
@@ -1359,6 +1363,13 @@ public final class WordOnPost {
 
         int digit(int i) {
             return i >= 0 && i < size && i < digits.length ? digits[i] : 0;
+        }
+
+        private void growTo(int newSize) {
+            while (size < newSize && size < digits.length) {
+                digits[size] = 0;
+                size++;
+            }
         }
 
         private void trim() {
@@ -1407,34 +1418,32 @@ public final class WordOnPost {
         }
 
         void plus(Big other) {
-            int reach = Math.min(Math.max(size, other.size) + 1, digits.length);
+            growTo(Math.max(size, other.size) + 1);
             int carry = 0;
-            for (int i = 0; i < reach; i++) {
-                carry += digit(i) + other.digit(i);
+            for (int i = 0; i < size; i++) {
+                carry += digits[i] + (i < other.size ? other.digits[i] : 0);
                 digits[i] = carry & MASK;
                 carry >>= BITS;
             }
-            size = reach;
             trim();
         }
 
         /** Becomes a times b, neither of which it is. */
         void product(Big a, Big b) {
-            int reach = Math.min(a.size + b.size, digits.length);
-            Arrays.fill(digits, 0, reach, 0);
+            size = 0;
+            growTo(a.size + b.size);
             for (int i = 0; i < a.size; i++) {
                 long factor = a.digits[i];
                 long carry = 0;
-                for (int j = 0; j < b.size && i + j < reach; j++) {
+                for (int j = 0; j < b.size && i + j < size; j++) {
                     carry += factor * b.digits[j] + digits[i + j];
                     digits[i + j] = (int) (carry & MASK);
                     carry >>= BITS;
                 }
-                if (i + b.size < reach) {
+                if (i + b.size < size) {
                     digits[i + b.size] = (int) carry;
                 }
             }
-            size = reach;
             trim();
         }
 
@@ -1496,20 +1505,14 @@ public final class WordOnPost {
 
         /** Adds a number below 2 to the 30 that is moved up by digits. */
         private void raise(int v, int shift) {
-            while (size <= shift && size < digits.length) {
-                digits[size] = 0;
-                size++;
-            }
+            growTo(Math.max(size, shift + 1) + 1);
             int carry = v;
-            for (int i = shift; i < digits.length && carry > 0; i++) {
-                if (i == size) {
-                    digits[size] = 0;
-                    size++;
-                }
+            for (int i = shift; i < size && carry > 0; i++) {
                 carry += digits[i];
                 digits[i] = carry & MASK;
                 carry >>= BITS;
             }
+            trim();
         }
     }
 }
