@@ -289,6 +289,10 @@ public final class PromisesTest {
         faultOf(x, "gone 5 1;", 0);
         faultOf(x, "crosscross;", 0);
         faultOf(x, "aaaacross;", 0);
+        faultOf(x, "cross;aaaaaaaaaaaacross;", 6);
+        faultOf(x, "goa5 1;", 0);
+        faultOf(x, "goz5 1;", 0);
+        faultOf(x, "go 5 1;go 6 2;go 7 0;go 8 1;go 9 2;go 10 0;go 11 1;go 12 2;go 13 0;go 14 1;join 15;cross;word1;", NONE);
         faultOf(x, "Go 5 1;", 0);
         faultOf(x, "go\t5 1;", 2);
         faultOf(x, "go 0005 1;", 3);
@@ -542,6 +546,11 @@ public final class PromisesTest {
         x.kind(2, 0, 6);
         due("132 by 6, 20 at most", x.must(0, 0, 2), 20);
         due("121 by 6", x.must(0, 1, 2), 20);
+        text(x, 2, "go 0 2;");
+        due("another story, none there", x.must(2, 0, 0), 0);
+        due("another story, 1320 by 100", x.must(2, 2, 1), 13);
+        x.kind(3, 0, 1);
+        due("by one", x.must(0, 2, 3), 0);
         text(x, 1, "go");
         due("a fault", x.must(1, 0, 0), NO);
         due("place 3", x.must(0, 3, 0), BAD);
@@ -930,6 +939,9 @@ public final class PromisesTest {
         due("by two legs", x.sails(0, 2, 10), 18);
         due("either way", x.sails(2, 0, 10), 18);
         due("the same", x.sails(3, 3, 59), 59);
+        x.days(2, 3, 1);
+        due("a leg of one day", x.sails(0, 3, 10), 19);
+        x.days(2, 3, 0);
         due("no way", x.sails(0, 3, 0), NONE);
         x.storm(10, true);
         due("it waits", x.sails(0, 1, 10), 15);
@@ -962,6 +974,7 @@ public final class PromisesTest {
         due("the same", x.back(2, 2, 10, 3, 13), 1);
         due("the same, too late", x.back(2, 2, 10, 3, 12), 0);
         due("no way", x.back(0, 2, 0, 0, 999), 0);
+        due("all at 0", x.back(1, 1, 0, 0, 0), 1);
         x.storm(18, true);
         due("a storm on the way back", x.back(0, 1, 10, 3, 23), 0);
         due("a day more", x.back(0, 1, 10, 3, 24), 1);
@@ -1055,6 +1068,27 @@ public final class PromisesTest {
         due("all is as it was", x.digest(), digest);
         due("stories are read anew", x.at(0, 50), 1);
         due("images stay", x.from(0), 1);
+        fromAnotherBeginning();
+    }
+
+    /** What is kept does not lie in the rows that another beginning fills. */
+    private static void fromAnotherBeginning() {
+        WordOnPost x = new WordOnPost();
+        x.image(1);
+        fill(x);
+        x.image(0);
+        long digest = x.digest();
+        x.from(1);
+        due("nothing is there", x.digest(), new WordOnPost().digest());
+        x.place(1);
+        x.place(2);
+        x.place(3);
+        x.lot(1);
+        x.sign(0, 0, 0, 1);
+        x.teller(0, 0, 0, 6, 1);
+        x.days(0, 1, 1);
+        x.from(0);
+        due("all is as it was", x.digest(), digest);
     }
 
     private static void fill(WordOnPost x) {
@@ -1089,6 +1123,7 @@ public final class PromisesTest {
         x.post(NONE, false);
         x.teller(1, 1, 1, 6, 1);
         x.days(1, 0, 1);
+        x.days(2, 0, 3);
         x.storm(9, false);
         x.stone(5, 1, 0, 5, 5);
     }
@@ -1150,13 +1185,15 @@ public final class PromisesTest {
         WordOnPost x = new WordOnPost();
         fill(x);
         x.place(90);
+        x.lot(9);
+        x.teller(3, 1, 119, 6, 2);
         x.days(2, 0, 7);
         x.days(1, 2, 8);
         x.type(3, 0xe900ff, 3);
         x.stone(5, 12, 12, 9, 1);
-        int[] head = {3, 1, 1, 1, 8, 0, 0, 3, 30, 40, 90, 5, 5, 5, 8, 5, 5, 5, 5, 5, 5, 7, 5, 7,
+        int[] head = {3, 2, 1, 2, 8, 0, 0, 3, 30, 40, 90, 5, 5, 5, 8, 5, 5, 5, 5, 5, 5, 7, 9, 5, 7,
             100, 0, 100, 0, 55, 4, 100, 0, 1, 'g', 'o', ' ', '5', '0', ' ', '1', ';', 6, 1, 1, 233, 0, 255,
-            1, 2, 3, 4, 1, 1, 1, 2, 0, 70, 1, 8, 6, 7, 8};
+            1, 2, 3, 4, 1, 1, 1, 2, 0, 70, 1, 8, 3, 1, 119, 6, 2, 6, 7, 8};
         int[] all = java.util.Arrays.copyOf(head, head.length + 60 + 6);
         all[head.length + 9] = 1;
         int[] tail = {1, 1, 2, 1, (int) (282429536482L % 1073741824L), (int) (282429536482L / 1073741824L)};
