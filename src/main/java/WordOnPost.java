@@ -1016,6 +1016,9 @@ public final class WordOnPost {
         private final Big[] byFound = new Big[MOST_FOUND + 1];
         private final Big dugUp = new Big(CHANCE_ROOM);
 
+        /** What each sign's row of the table was made of, so that it is made anew only when that changes. */
+        private final int[] keys = new int[SIGNS];
+
         Chances() {
             for (int i = 0; i < table.length; i++) {
                 table[i] = new Big(CHANCE_ROOM);
@@ -1032,14 +1035,32 @@ public final class WordOnPost {
         void refresh(State now) {
             for (int sign = 0; sign < now.signs; sign++) {
                 int[] row = now.signRows[sign];
-                int found = row[State.SIGN_FOUND];
-                carry(found, now.kinds[row[State.SIGN_KIND]][CARRIED]);
-                for (int left = 0; left <= MOST_LEFT; left++) {
-                    Big chance = of(sign, left);
-                    chance.copy(byFound[found]);
-                    chance.timesPower(10, MOST_LEFT - left);
-                    leaveOneMore(found, row[State.SIGN_DUG]);
+                int carried = now.kinds[row[State.SIGN_KIND]][CARRIED];
+                int key = 10000 + 1000 * row[State.SIGN_FOUND] + 10 * row[State.SIGN_DUG] + carried;
+                if (keys[sign] != key) {
+                    keys[sign] = key;
+                    weighSign(sign, row[State.SIGN_FOUND], row[State.SIGN_DUG], carried);
                 }
+            }
+        }
+
+        /**
+         * With one more left, c are found if c were and it was not dug up, or c - 1 were and it was.
+         * Chances of c found are told by 10 to the (c + left), so one found less is one 10 more.
+         */
+        private void weighSign(int sign, int found, int dug, int carried) {
+            carry(found, carried);
+            for (int left = 0; left <= MOST_LEFT; left++) {
+                Big chance = of(sign, left);
+                chance.copy(byFound[found]);
+                chance.timesPower(10, MOST_LEFT - left);
+                for (int c = found; c > 0; c--) {
+                    dugUp.copy(byFound[c - 1]);
+                    dugUp.times(10 * dug);
+                    byFound[c].times(10 - dug);
+                    byFound[c].plus(dugUp);
+                }
+                byFound[0].times(10 - dug);
             }
         }
 
@@ -1049,21 +1070,6 @@ public final class WordOnPost {
             for (int c = 1; c <= found; c++) {
                 byFound[c].copy(byFound[c - 1]);
                 byFound[c].times(carried);
-            }
-        }
-
-        /**
-         * With one more left, c are found if c were and it was not dug up, or c - 1 were and it was.
-         * Chances of c found are told by 10 to the (c + left), so one found less is one 10 more.
-         */
-        private void leaveOneMore(int found, int dug) {
-            for (int c = found; c >= 0; c--) {
-                byFound[c].times(10 - dug);
-                if (c > 0) {
-                    dugUp.copy(byFound[c - 1]);
-                    dugUp.times(10 * dug);
-                    byFound[c].plus(dugUp);
-                }
             }
         }
     }
@@ -1393,6 +1399,9 @@ public final class WordOnPost {
 
         /** Times a number below 2 to the 30. */
         void times(int factor) {
+            if (factor == 0) {
+                size = 0;
+            }
             long carry = 0;
             for (int i = 0; i < size; i++) {
                 carry += (long) digits[i] * factor;
@@ -1403,7 +1412,6 @@ public final class WordOnPost {
                 digits[size] = (int) carry;
                 size++;
             }
-            trim();
         }
 
         /** Times a power of a number of 0 to 10, nine at once: 10 to the 9th is below 2 to the 30. */
