@@ -2,64 +2,7 @@
  * For each promise of the document ordinary inputs, its edges and wrong inputs, with answers
  * worked out by hand. Every method is named after its promise.
  */
-public final class PromisesTest {
-    private static int wrong;
-    private static int checks;
-    private static String promise = "";
-
-    private static final int NONE = -1, BAD = -2, NO = -3, FULL = -4;
-
-    private static void due(String call, long got, long want) {
-        checks++;
-        if (got != want) {
-            wrong++;
-            System.out.println(promise + ": " + call + " answered " + got + ", due is " + want);
-        }
-    }
-
-    private static void fraction(WordOnPost x, String call, int above, int below) {
-        due(call + " sign", x.part(0), above == 0 ? 0 : 1);
-        due(call + " limbs above", x.part(1), above == 0 ? 0 : 1);
-        due(call + " limbs below", x.part(2), 1);
-        due(call + " above", x.limb(0, 0), above == 0 ? NONE : above);
-        due(call + " below", x.limb(1, 0), below);
-    }
-
-    private static void refused(WordOnPost x, int bad, int no, int full) {
-        due("status(0)", x.status(0), bad);
-        due("status(1)", x.status(1), no);
-        due("status(2)", x.status(2), full);
-    }
-
-    private static void text(WordOnPost x, int story, String text) {
-        x.clear(story);
-        for (int i = 0; i < text.length(); i++) {
-            x.type(story, text.charAt(i), 1);
-        }
-    }
-
-    private static void faultOf(WordOnPost x, String text, int want) {
-        text(x, 0, text);
-        due("fault of '" + text + "'", x.fault(0), want);
-    }
-
-    private static WordOnPost withPlaces(int n) {
-        WordOnPost x = new WordOnPost();
-        for (int i = 0; i < n; i++) {
-            x.place(100);
-        }
-        return x;
-    }
-
-    /** The digest as the document says it, of a list of numbers. */
-    private static long mixed(int... vs) {
-        long h = 569;
-        for (int v : vs) {
-            h = 31 * h + v;
-        }
-        return h;
-    }
-
+public final class PromisesTest extends Due {
     public static void main(String[] args) {
         newObject();
         place();
@@ -103,10 +46,7 @@ public final class PromisesTest {
         status();
         count();
         digest();
-        System.out.println(checks + " answers by promises, " + wrong + " wrong");
-        if (wrong > 0) {
-            System.exit(1);
-        }
+        end("promises");
     }
 
     private static void newObject() {
