@@ -14,6 +14,7 @@ public final class EdgesOfRestTest extends Due {
         fromKeepsFractionAndStatus();
         fromKeepsImages();
         fromOfEach();
+        fromForgetsChances();
         status();
         statusOfEachReason();
         count();
@@ -195,6 +196,52 @@ public final class EdgesOfRestTest extends Due {
             due("from(0)", x.from(0), 1);
             due("change " + change + " is gone", x.digest(), digest);
         }
+    }
+
+    /** A SIGN that takes the number of another one has chances of its own, by FOUND, DUG and CARRIED. */
+    private static void fromForgetsChances() {
+        promise = "34 from, another SIGN of the same number";
+        // all of them one after the other, up, down and far apart
+        for (int step : new int[] {1, 999, 7, 10, 111}) {
+            WordOnPost x = null;
+            for (int i = 0; i < 1000; i++) {
+                if (i % 60 == 0) {
+                    x = stayOrGo();
+                }
+                anotherSign(x, i * step % 1000);
+            }
+        }
+    }
+
+    private static void anotherSign(WordOnPost x, int v) {
+        int found = v / 100;
+        int dug = 1 + v / 10 % 10;
+        int carried = v % 10;
+        WordOnPost fresh = stayOrGo();
+        x.from(0);
+        int share = 0;
+        for (WordOnPost each : new WordOnPost[] {x, fresh}) {
+            each.kind(1, 1, carried);
+            each.sign(0, 1, found, dug);
+            share = each.all(0);
+        }
+        String call = "FOUND " + found + ", DUG " + dug + ", CARRIED " + carried;
+        // where no WORLD has some WEIGHT, THE FRACTION is the one ahead
+        if (share == 1) {
+            due(call, x.digest(), fresh.digest());
+        } else {
+            due(call, x.all(0), NO);
+        }
+    }
+
+    /** Two left of KIND 1 at PLACE 0, or none; IMAGE 0 is of that. */
+    private static WordOnPost stayOrGo() {
+        WordOnPost x = withPlaces(2);
+        x.lot(1);
+        x.kind(1, 0, 60);
+        texts(x, "", "go 0 1;", "?", "?");
+        x.image(0);
+        return x;
     }
 
     /** As much as fits in it, but one of each. */

@@ -227,6 +227,17 @@ public final class EdgesOfStoriesTest extends Due {
         due("six in one YEAR", z.hunger(0), 6);
         text(z, 0, "go 1 1;go 2 2;go 3 3;go 4 4;go 5 5;");
         due("six, and nine more", z.hunger(0), 15);
+        // in one MONTH in which all STORIES tell of a go
+        WordOnPost four = new WordOnPost();
+        four.place(200);
+        four.place(0);
+        four.lot(1);
+        for (int story = 0; story < 4; story++) {
+            text(four, story, "go 30 1;go 31 0;");
+        }
+        for (int story = 0; story < 4; story++) {
+            due("all go at once, STORY " + story, four.hunger(story), 1);
+        }
         // as RAIN tells: 7 feed 7 * 4 by 5, cut, which are 5
         WordOnPost c = new WordOnPost();
         c.place(7);
