@@ -201,8 +201,8 @@ public final class EdgesOfRestTest extends Due {
     /** A SIGN that takes the number of another one has chances of its own, by FOUND, DUG and CARRIED. */
     private static void fromForgetsChances() {
         promise = "34 from, another SIGN of the same number";
-        // all of them one after the other, up, down and far apart
-        for (int step : new int[] {1, 999, 7, 10, 111}) {
+        // one after the other: up, down, far apart, and one number up with another one down
+        for (int step : new int[] {1, 999, 7, 10, 111, 9, 99, 90}) {
             WordOnPost x = null;
             for (int i = 0; i < 1000; i++) {
                 if (i % 60 == 0) {

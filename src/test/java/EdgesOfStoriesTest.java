@@ -316,6 +316,16 @@ public final class EdgesOfStoriesTest extends Due {
         x.put(0, 1);
         x.all(0);
         fraction(x, "1 of 9, ten times", BigInteger.ONE, power(9, 10).multiply(BigInteger.valueOf(3)).add(BigInteger.ONE));
+        // one YEAR of one PLACE alone in which there can be HUNGER
+        WordOnPost one = withPlaces(1);
+        one.lot(1);
+        one.rain(3, 0);
+        texts(one, "", "die 0;", "?", "?");
+        one.odds(0, 0);
+        fraction(one, "6 of 9 against 9 of 9", 6, 15);
+        one.put(0, 0);
+        one.odds(0, 0);
+        fraction(one, "0 of 9 against 9 of 9", 0, 1);
         // 0 to the 0 is 1: no HUNGER, HARD 0
         WordOnPost y = withPlaces(1);
         y.lot(1);
