@@ -1066,10 +1066,10 @@ public final class WordOnPost {
 
         /** None left: all that is found was carried there. */
         private void carry(int found, int carried) {
-            byFound[0].become(1);
-            for (int c = 1; c <= found; c++) {
-                byFound[c].copy(byFound[c - 1]);
-                byFound[c].times(carried);
+            long power = 1;
+            for (int c = 0; c <= found; c++) {
+                byFound[c].become(power);
+                power *= carried;
             }
         }
     }
